@@ -7,7 +7,10 @@ public final class StairsThatGo {
     private static final int MOST_STAIRS = 3, MOST_STEPS = 10, MOST_PEOPLE = 14, LAST_TICK = 99, TICKS = 100;
     private static final int MOST_BYTES = 80, MOST_TYPED = 8, MOST_TOLD = 8, FIRST_FAULT = -20;
     private static final int SHEETS = 4, LANES = 3, MOST_ITEMS = 16, MOST_COUNTS = 10, LOWER = 100000;
-    private static final int NOBODY = -1, NO_BOUND = Integer.MAX_VALUE;
+    private static final int NOBODY = -1;
+
+    /** Far above all waits and all energy of a day. */
+    private static final int NO_BOUND = 1000000;
 
     private static final int LENGTH = 0, WAY = 1, PACE = 2;
     private static final int STAND = 0;
@@ -458,7 +461,7 @@ public final class StairsThatGo {
 
     /** Ways that stay are a change too, so no sum above theirs need be looked at. */
     private void seekChange(int tick) {
-        int bound = NO_BOUND - 1;
+        int bound = NO_BOUND;
         for (int w = 0; w < THREES[plan.stairs]; w++) {
             trial.loadAllDay(plan, w);
             trial.runWaits(0, bound);
