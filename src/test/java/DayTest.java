@@ -22,6 +22,8 @@ final class DayTest {
         energy();
         changes();
         toldAnew();
+        leftOver();
+        fourteen();
         c.end();
     }
 
@@ -195,6 +197,10 @@ final class DayTest {
         fates(x, "beside", 0, 0, 0);
         c.due("on the left", x.on(0, 0, 0, 1), 0);
         c.due("on the right", x.on(0, 0, 0, 0), 1);
+        // a grown one on the left of step 1, who would walk, but for the bags ahead
+        fates(day(6, 1, UP, "0ub;1uw;2uc"), "behind the left", 0, 0, 1, 2);
+        // a child that is alone by then still goes on
+        fates(day(4, 1, UP, "0us;0uc"), "behind", 2, 4, 5);
         x = day(4, 1, UP, "0uc;0uc;0us");
         x.set(0, 0);
         // the second one sits behind the grown one, who is on step 1 then
@@ -272,6 +278,14 @@ final class DayTest {
         c.due("one step on", x.on(2, 0, 3, 0), 0);
         c.due("and no more", x.on(99, 0, 3, 1), 1);
         c.due("counted once a tick", x.all(2), 98);
+        // one on the left alone is one
+        x = day(3, 1, UP, "0uw");
+        x.set(1, 1);
+        c.due("one on the left", x.all(2), 0);
+        fates(x, "one on the left", 2, 2);
+        x = day(3, 1, UP, "1uw;0us");
+        x.set(1, 1);
+        c.due("one on either side", x.all(2), 97);
         // while it is jammed, one steps on where it is free
         x = day(3, 1, UP, "0us;0us;2us;3us;4us");
         x.set(0, 0);
@@ -291,6 +305,10 @@ final class DayTest {
         c.due("at(99, 0)", x.at(99, 0), 16);
         c.due("at(99, 2)", x.at(99, 2), 47);
         alls(x, "jam", 96, 200 + 2 + 4 + 6 + 8 + 960, 97, 0, 0, 0, 100);
+        // the same, by other numbers
+        x = day(3, 1, UP, "3uw;0us;1uw;2uw;4ub;4us");
+        x.set(1, 1);
+        fates(x, "jam again", 0, 3, 0, 1, 2, -4, 4);
     }
 
     private static void trips() {
@@ -361,6 +379,8 @@ final class DayTest {
         c.due("nothing back", x.all(1), 900);
         x.set(6, 10);
         c.due("all back", x.all(1), 900 - 4 - 6 - 6 - 2);
+        x.set(6, 9);
+        c.due("nine tenths back", x.all(1), 900 - 3 - 5 - 5 - 1);
         x.of(0, 1, 0);
         c.due("one that stands", x.all(1), 0);
     }
@@ -376,6 +396,17 @@ final class DayTest {
         c.due("stands: at(4, 3)", x.at(4, 3), 3);
         c.due("stands: on(4, 0, 3, 0)", x.on(4, 0, 3, 0), -4);
         c.due("stands: energy", x.all(1), 8 + 2 + 6 + 6 + 6);
+        // but for those on another one, or who are through
+        x = day(3, 1, UP, "0us;10us;10us");
+        x.stair(10, 1);
+        x.of(1, 1, UP);
+        x.change(12, 3);
+        fates(x, "one of two stands", 2, 3, 12, 20);
+        x = day(10, 1, UP, "0us");
+        x.change(9, 2);
+        c.due("from step 8 to 1, and one more", x.on(9, 0, 2, 0), 0);
+        c.due("not on 8 any more", x.on(9, 0, 9, 0), -4);
+        fates(x, "turns late", 2, 17);
         // the other way round: on step 6 in place of 3, and one more in that tick
         x = day(10, 1, UP, "0us;1ub;3uw;4ds");
         x.change(4, 2);
@@ -420,6 +451,84 @@ final class DayTest {
         c.due("rests: at(5, 4)", x.at(5, 4), 4);
         c.due("rests: on(5, 0, 9, 0)", x.on(5, 0, 9, 0), 0);
         fates(x, "rests", 2, 10);
+    }
+
+    /** What one call ran through leaves nothing to the next one. */
+    private static void leftOver() {
+        StairsThatGo x = day(3, 1, UP, "0us;0us");
+        x.set(0, 0);
+        x.set(1, 2);
+        x.set(2, 1);
+        for (int k = 0; k < 3; k++) {
+            c.due("one on the landing", x.at(3, 1), 2);
+            c.due("the other is through", x.at(3, 3), 1);
+            c.due("nobody on the stair", x.at(3, 2), 0);
+        }
+        x.set(3, 3);
+        x.set(4, 1);
+        int trips = x.all(3);
+        c.due("trips", trips, 3);
+        x.set(5, 3);
+        c.due("trips again", x.all(3), trips);
+        c.due("trips at 0", x.at(0, 4), 1);
+        c.due("trips at 0 again", x.at(0, 4), 1);
+        c.due("jams", x.all(2), 0);
+        // a stair in the place of one that an image did not have stands
+        x = new StairsThatGo();
+        x.image();
+        x.stair(5, 1);
+        x.of(0, 1, 2);
+        x.restore();
+        x.stair(6, 2);
+        c.due("stands", x.of(0, 1, 1), 0);
+        c.due("length", x.of(0, 0, 3), 6);
+        c.due("pace", x.of(0, 2, 1), 2);
+    }
+
+    private static void fourteen() {
+        StairsThatGo x = day(10, 1, UP, "0us;0us;0us;0us;0us;0us;0us");
+        Check.people(x, "0us;0us;0us;0us;0us;0us;0us");
+        x.set(3, 40);
+        alls(x, "fourteen", 91, 200 + 280, 0, 0, 0, 14, 23);
+        c.due("at(5, 0)", x.at(5, 0), 0x3FC0);
+        c.due("at(5, 2)", x.at(5, 2), 0x3F);
+        c.due("at(99, 3)", x.at(99, 3), 0x3FFF);
+        c.due("ways(0)", x.ways(0), 1);
+        c.due("ways(1)", x.ways(1), 91);
+        c.due("best(5, 0)", x.best(5, 0), 1);
+        c.due("best(5, 1)", x.best(5, 1), 1);
+        c.due("best(5, 2)", x.best(5, 2), 91);
+        c.due("thrift(99, 0)", x.thrift(99, 0), 1);
+        c.due("thrift(99, 1)", x.thrift(99, 1), 340);
+        c.due("costs(0)", x.costs(0), 13);
+        c.due("costs(13)", x.costs(13), 0);
+        c.due("rules()", x.rules(), 42 - 91);
+        fates(x, "fourteen", 2, 10, 11, 12, 13, 14, 15, 16, 17, 18, 19, 20, 21, 22, 23);
+        x.change(8, 0);
+        fates(x, "fourteen, eight at once", 2, 8, 8, 8, 8, 8, 8, 8, 8, -4, -4, -4, -4, -4, -4);
+        x.change(0, 0);
+        x.of(0, 2, 2);
+        x.set(3, 3);
+        c.holds("trips", x.all(3) > 0);
+        c.due("nobody walked", x.all(4), 0);
+        x.image();
+        for (int p = 13; p >= 0; p--) {
+            c.due("strike(" + p + ")", x.strike(p), p);
+        }
+        x.restore();
+        c.due("strike(0)", x.strike(0), 13);
+        for (int k = 0; k < 13; k++) {
+            x.strike(0);
+        }
+        for (int p = 0; p < 14; p++) {
+            x.person(0, 0, 2);
+        }
+        x.of(0, 1, 0);
+        c.due("all wait, with bags", x.at(50, 0), 0x3FFF);
+        x.of(0, 1, 1);
+        x.set(1, 9);
+        x.set(3, 40);
+        c.due("bags: all(0)", x.all(0), 91);
     }
 
     private static void toldAnew() {

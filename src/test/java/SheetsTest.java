@@ -261,6 +261,14 @@ final class SheetsTest {
         x.of(2, 1, 0);
         x.film(0, 0, 5, 10);
         c.due("film and stood", x.stood(0, 0, 5, 10) & 12, 12);
+        // by ticks 9, 19, 29: who is through at 19 and at 20
+        x = new StairsThatGo();
+        x.sheet(0, 0, 10);
+        x.stair(3, 1);
+        x.of(0, 1, 1);
+        Check.people(x, "16us;17us");
+        row(x, 0, 1, 2, 2);
+        c.due("by 9, 19, 29, 39", x.stood(0, 0, 0, 4), 8);
         // standing all day: behind a change, too
         x = new StairsThatGo();
         x.sheet(1, 1, 10);
@@ -268,6 +276,14 @@ final class SheetsTest {
         x.person(0, 0, 0);
         x.change(5, 1);
         c.due("it goes later on", x.stood(1, 1, 0, 10), 1);
+        x.change(5, 2);
+        x.strike(0);
+        x.person(0, 1, 0);
+        c.due("it goes down later on", x.stood(1, 1, 0, 10), 1);
+        x.change(5, 1);
+        c.due("it goes up, for nobody", x.stood(1, 1, 0, 10), 9);
+        x.strike(0);
+        x.person(0, 0, 0);
         x.film(1, 1, 0, 10);
         c.due("as told", x.stood(1, 1, 0, 10), 8);
         x.stair(3, 1);

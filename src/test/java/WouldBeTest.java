@@ -137,6 +137,25 @@ final class WouldBeTest {
         x.person(70, 0, 0);
         threes(x, 70, 0, 1, 0);
         threes(x, 71, 1, 0, 0);
+        x = stairs(3, 1);
+        Check.people(x, "70us;70us");
+        threes(x, 60, 0, 1, 1);
+        // a stair that rests at the tick rests on
+        x = stairs(10, 1);
+        x.set(3, 3);
+        x.set(4, 9);
+        Check.people(x, "0ub;0us");
+        threes(x, 5, 1, 1, 10);
+        threes(x, 1, 1, 1, 10);
+        // going up from the first on it jams ahead of the last one; from the tick on it takes all, and jams then
+        x = stairs(3, 1);
+        x.set(0, 0);
+        x.set(1, 1);
+        Check.people(x, "0us;0us;2us;2us;4us");
+        threes(x, 5, 0, 1, 5 + 5 + 4 + 4 + 3);
+        threes(x, 3, 0, 1, 3 + 3 + 2 + 2 + 1);
+        x.set(1, 2);
+        threes(x, 3, 1, 1, 0);
         // people on a stair that is turned wait no more
         x = stairs(10, 1);
         Check.people(x, "0us;1us;2ds");
@@ -246,7 +265,7 @@ final class WouldBeTest {
         c.due("no image yet", x.restore(), -4);
         x.of(0, 1, 1);
         x.set(5, 7);
-        x.change(30, 2);
+        x.change(30, 1);
         Check.people(x, "0us;1uw");
         c.due("image()", x.image(), 1);
         int energy = x.all(1);
@@ -283,6 +302,11 @@ final class WouldBeTest {
             c.due("set(" + what + ")", x.set(what, settings[what]), settings[what]);
         }
         c.due("change", x.change(0, 0), 30);
+        x.change(30, 26);
+        c.due("restore() for the ways of the change", x.restore(), 1);
+        x.person(29, 0, 0);
+        x.of(0, 0, 10);
+        c.due("who rides on by the ways of the change", x.at(30, 2), 4);
         c.due("restore() again", x.restore(), 1);
         c.due("length again", x.of(0, 0, 4), 5);
         c.due("change again", x.change(30, 2), 30);
