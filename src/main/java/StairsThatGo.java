@@ -985,7 +985,7 @@ public final class StairsThatGo {
         /** Of one for whom this place is free and whose floor this is. */
         private boolean mayBoard(int kind, Flight flight, int place) {
             if (kind == BAGGED) {
-                return place == RIGHT && flight.who(0, LEFT) < 0;
+                return place == RIGHT && flight.spot[LEFT] < 0;
             }
             if (setting[RULE] == 1 && (kind == WALKING) != (place == LEFT)) {
                 return false;
@@ -993,18 +993,13 @@ public final class StairsThatGo {
             if (kind == FEARING) {
                 return flight.pace == 1;
             }
-            return kind != CHILD || isGrownOneNear(flight);
-        }
-
-        private boolean isGrownOneNear(Flight flight) {
-            // the first four spots are steps 0 and 1
-            for (int k = 0; k < 4; k++) {
+            boolean may = kind != CHILD;
+            // the first four spots are steps 0 and 1: for a child some grown one must be there
+            for (int k = 0; k < 4 && !may; k++) {
                 int person = flight.spot[k];
-                if (person >= 0 && riders[person].kind != CHILD) {
-                    return true;
-                }
+                may = person >= 0 && riders[person].kind != CHILD;
             }
-            return false;
+            return may;
         }
 
         private void weigh(int stair) {

@@ -283,6 +283,12 @@ final class DayTest {
         x.set(1, 1);
         c.due("one on the left", x.all(2), 0);
         fates(x, "one on the left", 2, 2);
+        x = day(3, 1, UP, "0uw;0uw");
+        x.stair(3, 1);
+        x.of(1, 1, UP);
+        x.set(1, 1);
+        fates(x, "one on the left of each stair", 2, 2, 3);
+        c.due("one on the left of each stair", x.all(2), 1);
         x = day(3, 1, UP, "1uw;0us");
         x.set(1, 1);
         c.due("one on either side", x.all(2), 97);
@@ -352,6 +358,13 @@ final class DayTest {
         c.due("falls", x.all(4), 6);
         c.due("kind as told", x.told(1, 2), 1);
         c.due("walks no more", x.on(5, 0, 2, 1), 1);
+        x = day(10, 2, UP, "0uw;0us");
+        x.set(3, 3);
+        fates(x, "the first falls", 4, 1, 0);
+        c.due("the first falls", x.all(4), 1);
+        x = day(10, 2, UP, "0us;0uw;5uw");
+        x.set(3, 3);
+        x.set(4, 4);
         // at pace 1 nobody falls
         x.of(0, 2, 1);
         c.due("slow", x.all(4), 0);
