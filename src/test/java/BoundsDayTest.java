@@ -109,6 +109,12 @@ final class BoundsDayTest {
             c.due("the last step behind " + tick, x.on(tick, 0, 2, 1), 1);
         }
         fates(x, "never through", 2, -4, -4);
+        // number 0 is one, too: on the left, a walking one
+        x = Check.day(3, 1, UP, "1uw;0us");
+        x.set(ROOM, 1);
+        c.due("two for one, number 0 on the left", x.all(2), 97);
+        x.set(ROOM, 2);
+        c.due("two for two, number 0 on the left", x.all(2), 0);
         // the landing is full by the first stair, but nobody wants to it from the second one
         x = Check.day(3, 1, UP, "0us;0us");
         Check.addStair(x, 5, 1, UP);
@@ -281,6 +287,10 @@ final class BoundsDayTest {
         c.due("left alone is taken", x.on(4, 0, 0, 1), 3);
         c.due("right alone is free", x.on(4, 0, 0, 0), -4);
         fates(x, "bags want both", 0, 0, 1, 2, 3, -4, 5);
+        x = Check.day(3, 1, UP, "3uw;0us;1uw;2uw;4ub;5us");
+        x.set(ROOM, 1);
+        c.due("left alone is taken by number 0", x.on(4, 0, 0, 1), 0);
+        fates(x, "bags want both", 0, 3, 0, 1, 2, -4, 5);
         x = Check.day(3, 1, UP, "0us;1uw;1us;2us;4ub;6uw");
         x.set(ROOM, 1);
         c.due("right alone is taken", x.on(5, 0, 0, 0), 3);
@@ -370,6 +380,8 @@ final class BoundsDayTest {
             c.due("trips at pace " + pace, x.at(1, 4), 1);
             fates(x, "pace " + pace, 4, 0, pace - 1, 0);
             c.due("who fell at pace " + pace, x.all(4), 2 * (pace - 1));
+            x.of(0, 2, 3 - pace);
+            c.due("who fell at pace " + (3 - pace) + " then", x.all(4), 2 * (2 - pace));
         }
         // the one who fell does not walk on
         StairsThatGo x = Check.day(10, 2, UP, "0ub;1uw;1us");
