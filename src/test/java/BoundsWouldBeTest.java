@@ -159,6 +159,14 @@ final class BoundsWouldBeTest {
         for (int what = 0; what <= 2; what++) {
             c.due("though another one is told: best(50, " + what + ")", told.best(50, what), new int[] {1, 2, 1}[what]);
         }
+        // who is on a landing at the tick leaves it: the bags step on at 6, behind a jam at 5, the last one at 7
+        StairsThatGo jam = Check.day(3, 1, 0, "4us;1us;2us;1us;6us;2us;5ub");
+        jam.set(RULE, 0);
+        jam.set(ROOM, 2);
+        jam.set(LEAVE, 1);
+        for (int what = 0; what <= 2; what++) {
+            c.due("by a landing: best(5, " + what + ")", jam.best(5, what), new int[] {1, 1, 2}[what]);
+        }
         // a tick early it is theirs who come a tick ahead, a tick late it is not yet theirs
         StairsThatGo x = Check.day(3, 1, 0, "50us;51ds");
         int[][] due = {{0, 1, 49}, {1, 2, 0}, {1, 2, 1}};
